@@ -579,7 +579,8 @@ public final class Spanjudge {
     }
 
     private static int mismatch(Word one, Word other) {
-        return isSame(one, other) ? -1 : alike(one, other);
+        int place = alike(one, other);
+        return place == one.size() && place == other.size() ? -1 : place;
     }
 
     private static int compareWords(Word one, Word other, boolean unsigned) {
@@ -811,10 +812,13 @@ public final class Spanjudge {
             Word[] unsigned = kind == LONG_KIND ? turned : changedWords(kind, 'u', words);
             for (int one = 0; one < words.length; one++) {
                 for (int other = 0; other < words.length; other++) {
-                    if (one != other
-                            && !(pairIsTrue(words[one], words[other])
+                    boolean pairIsTrue = one == other
+                            || alikeIsTrue(words[one], words[other])
+                            && orderIsTrue(words[one], words[other], false)
+                            && orderIsTrue(words[one], words[other], true)
                             && isUnsignedOf(words[one], words[other], turned[one], turned[other])
-                            && isUnsignedOf(words[one], words[other], unsigned[one], unsigned[other]))) {
+                            && isUnsignedOf(words[one], words[other], unsigned[one], unsigned[other]);
+                    if (!pairIsTrue) {
                         return false;
                     }
                 }
@@ -828,10 +832,6 @@ public final class Spanjudge {
                 others[place] = words[place].changedBy(kind, how);
             }
             return others;
-        }
-
-        private static boolean pairIsTrue(Word x, Word y) {
-            return alikeIsTrue(x, y) && orderIsTrue(x, y, false) && orderIsTrue(x, y, true);
         }
 
         /** (1) */

@@ -180,6 +180,11 @@ public final class RowsTest {
         due.index("9: no row", x, () -> x.cut('s', -1, 0, 0));
         due.is("9: nothing at the end", 0, x.cut('s', 0, 3, 3));
         due.is("9: nothing of nothing", 0, x.cut('s', 0, 0, 0));
+        Due.put(x, 'l', 3, new long[32]);
+        x.set('l', 3, 31, 8);
+        due.is("9: the whole of a full row", 32, x.cut('l', 3, 0, 32));
+        due.is("9: the last one of a full row", 1, x.cut('l', 3, 31, 32));
+        due.is("9: the last one of a full row", "8", Due.numbers(x, 'l', 3));
     }
 
     private static void convert() {
@@ -212,9 +217,9 @@ public final class RowsTest {
         Due.put(x, 's', 0, -1, -32768, 8);
         x.convert('s', 0, 'i', 1, 'u');
         due.is("10: s without sign", "65535 32768 8", Due.numbers(x, 'i', 1));
-        Due.put(x, 'l', 1, 5, Long.MAX_VALUE);
+        Due.put(x, 'l', 1, 5, 1, 0, Long.MAX_VALUE);
         x.convert('l', 1, 'l', 2, 'u');
-        due.is("10: l without sign", "5 " + Long.MAX_VALUE, Due.numbers(x, 'l', 2));
+        due.is("10: l without sign", "5 1 0 " + Long.MAX_VALUE, Due.numbers(x, 'l', 2));
     }
 
     private static void convertRefused() {
@@ -227,6 +232,8 @@ public final class RowsTest {
             due.state("10: l without sign into " + other, x, () -> x.convert('l', 0, other, 1, 'u'));
         }
         due.state("10: l without sign into itself", x, () -> x.convert('l', 0, 'l', 0, 'u'));
+        Due.put(x, 'i', 1, 128, 1);
+        due.state("10: the first one is no byte", x, () -> x.convert('i', 1, 'b', 1, 'n'));
         due.state("10: 128 is no byte", x, () -> x.convert('i', 0, 'b', 1, 'n'));
         due.state("10: -129 is no byte", x, () -> x.convert('s', 0, 'b', 1, 'n'));
         due.state("10: 255 is no byte", x, () -> x.convert('b', 0, 'b', 1, 'u'));
