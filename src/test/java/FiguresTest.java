@@ -93,22 +93,28 @@ public final class FiguresTest {
         due.is("33: all that there is", sum, x.checksum());
     }
 
+    private static Spanjudge words(char kind) {
+        Spanjudge x = Due.with(kind, 0, 1, -2, 3, 1, -2, 3, 1, 2);
+        Due.put(x, kind, 1, -128, 127, 0, -1);
+        int[][] spans = {{0, 0, 3}, {0, 3, 6}, {0, 3, 8}, {0, 6, 8}, {1, 0, 4}, {1, 1, 1}, {0, 0, 8}, {1, 2, 4}};
+        for (int span = 0; span < spans.length; span++) {
+            x.span(span, spans[span][0], spans[span][1], spans[span][2]);
+        }
+        x.span(9, 3, 0, 1);
+        return x;
+    }
+
     private static void isTrue() {
         for (char kind : new char[] {'b', 's', 'i', 'l'}) {
-            Spanjudge x = Due.with(kind, 0, 1, -2, 3, 1, -2, 3, 1, 2);
-            Due.put(x, kind, 1, -128, 127, 0, -1);
-            int[][] spans = {{0, 0, 3}, {0, 3, 6}, {0, 3, 8}, {0, 6, 8}, {1, 0, 4}, {1, 1, 1}, {0, 0, 8}, {1, 2, 4}};
-            for (int span = 0; span < spans.length; span++) {
-                x.span(span, spans[span][0], spans[span][1], spans[span][2]);
-            }
-            x.span(9, 3, 0, 1);
             for (int one = 0; one < 9; one++) {
+                Spanjudge each = words(kind);
                 for (int other = 0; other < 9; other++) {
                     for (int third = 0; third < 9; third++) {
-                        due.is("34: " + one + " " + other + " " + third, true, x.isTrue(kind, one, other, third));
+                        due.is("34: " + one + " " + other + " " + third, true, each.isTrue(kind, one, other, third));
                     }
                 }
             }
+            Spanjudge x = words(kind);
             due.state("34: the first does not fit", x, () -> x.isTrue(kind, 9, 0, 0));
             due.state("34: the second does not fit", x, () -> x.isTrue(kind, 0, 9, 0));
             due.state("34: the third does not fit", x, () -> x.isTrue(kind, 0, 0, 9));

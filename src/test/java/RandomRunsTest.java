@@ -6,9 +6,9 @@ import java.util.Arrays;
 import java.util.Comparator;
 import java.util.List;
 
-/** Runs of 512 calls each, every answer beside that of Model; the same runs each time. */
+/** Runs of the 512 calls that an object is good for, every answer beside that of Model; the same runs each time. */
 public final class RandomRunsTest {
-    private static final int RUNS = 1500;
+    private static final int RUNS = 2400;
     private static final int CALLS = 512;
 
     private static final long[] EDGES = {
@@ -50,12 +50,17 @@ public final class RandomRunsTest {
         kinds = below(2) == 0 ? "bsil" : "bsil".substring(below(4)).substring(0, 1);
         Spanjudge x = new Spanjudge();
         Model model = new Model();
-        for (int call = 0; call < CALLS; call++) {
+        // Of the checksums, which are calls too, every other run asks but the last one.
+        boolean summedEachTime = run % 2 == 0;
+        int count = summedEachTime ? CALLS / 2 : CALLS - 1;
+        for (int call = 0; call < count; call++) {
             Method method = below(3) == 0 ? named(below(2) == 0 ? "append" : "span") : calls[below(calls.length)];
             Object[] arguments = arguments(method, model);
             String text = run + "." + call + ": " + method.getName() + Arrays.toString(arguments);
             due.is(text, answer(model, method, arguments), answer(x, method, arguments));
-            due.is(text + ", then checksum", model.checksum(), x.checksum());
+            if (summedEachTime || call == count - 1) {
+                due.is(text + ", then checksum", model.checksum(), x.checksum());
+            }
         }
     }
 

@@ -1,11 +1,11 @@
 import java.lang.management.ManagementFactory;
 
 /**
- * What 512 calls of one kind allocate: all calls of a run live in one room of some 600,000 objects,
+ * What an object's 512 calls, those that fill it and those of one kind, allocate: all calls of a run live in one room of some 600,000 objects,
  * and a row of 32 numbers is the dearest there is. No object is smaller than 16 bytes.
  */
 public final class RoomTest {
-    private static final int CALLS = 512;
+    private static final int CALLS = 512 - 40;
     private static final long MOST_BYTES = 600_000L * 16 / 4;
 
     private static final Due due = new Due();
@@ -42,7 +42,8 @@ public final class RoomTest {
     private static Spanjudge full() {
         Spanjudge x = new Spanjudge();
         for (int row = 0; row < 4; row++) {
-            Due.put(x, 'i', row, new long[32]);
+            Due.put(x, 'i', row, new long[4]);
+            x.repeat('i', row, 8);
         }
         for (int span = 0; span < 12; span++) {
             x.span(span, span % 4, 0, 32);
