@@ -11,6 +11,7 @@ public final class RowsBoundaryTest {
 
     public static void main(String[] args) {
         newObject();
+        twoObjects();
         append();
         appendRefused();
         set();
@@ -50,6 +51,35 @@ public final class RowsBoundaryTest {
             Edges.full();
             cases.is(first, State.of(new Spanjudge()));
             cases.is(NEW_CHECKSUM, new Spanjudge().checksum());
+        });
+    }
+
+    private static void twoObjects() {
+        cases.test("1", "two objects have nothing of each other: rows, spans and list", () -> {
+            Spanjudge one = Edges.busy();
+            String before = State.of(one);
+            Spanjudge other = Edges.busy();
+            other.sort('b', 'u');
+            Edges.eachRow((kind, row) -> other.reverse(kind, row));
+            for (int span = 0; span < 12; span++) {
+                other.span(span, 3, 11 - span, 12);
+            }
+            other.sort('l', 'u');
+            cases.is(before, State.of(one));
+            String after = State.of(other);
+            one.sort('s', 's');
+            Edges.eachRow((kind, row) -> one.clear(kind, row));
+            cases.is(after, State.of(other));
+        });
+        cases.test("1", "two objects that are asked in turn about endings and factors", () -> {
+            Spanjudge one = Edges.withRow('b', 0, Edges.rising(32));
+            Spanjudge other = Edges.withRow('b', 0, Edges.alike(31, 2));
+            for (int place = 0; place < 31; place++) {
+                cases.is(place, one.ending('b', 's', 0, place));
+                cases.is(30 - place, other.ending('b', 's', 0, place));
+                cases.is(1, one.factors('b', 'u', 0));
+                cases.is(31, other.factors('b', 'u', 0));
+            }
         });
     }
 
@@ -374,41 +404,54 @@ public final class RowsBoundaryTest {
         cases.noKind("9", kind -> x -> x.cut(kind, 0, 0, 1));
         cases.noRow("9", (kind, row) -> x -> x.cut(kind, row, 0, 0));
         for (int size : SIZES) {
-            List<Cases.Call> below = new ArrayList<>();
-            List<Cases.Call> turned = new ArrayList<>();
-            List<Cases.Call> above = new ArrayList<>();
-            for (int from : Edges.intsOutside(0, Integer.MAX_VALUE)) {
-                below.add(x -> x.cut('i', 1, from, 0));
-                below.add(x -> x.cut('i', 1, from, size));
-                below.add(x -> x.cut('i', 1, from, from));
-                below.add(x -> x.cut('i', 1, from, Integer.MAX_VALUE));
-            }
-            for (int to = -1; to < size; to++) {
-                int asked = to;
-                turned.add(x -> x.cut('i', 1, asked + 1, asked));
-                turned.add(x -> x.cut('i', 1, size, asked));
-                turned.add(x -> x.cut('i', 1, Integer.MAX_VALUE, asked));
-                turned.add(x -> x.cut('i', 1, size, Integer.MIN_VALUE));
-            }
-            for (int to : Edges.intsOutside(Integer.MIN_VALUE + 2, size)) {
-                if (to > size) {
-                    above.add(x -> x.cut('i', 1, 0, to));
-                    above.add(x -> x.cut('i', 1, size, to));
-                    above.add(x -> x.cut('i', 1, to, to));
-                }
-            }
             String ofSize = ", of " + size + " numbers";
-            cases.refused("9", "throws IndexOutOfBoundsException if from is below 0" + ofSize, Cases.INDEX,
-                    () -> Edges.withRow('i', 1, Edges.rising(size)), below);
-            cases.refused("9", "throws IndexOutOfBoundsException if to is above the length" + ofSize, Cases.INDEX,
-                    () -> Edges.withRow('i', 1, Edges.rising(size)), above);
-            cases.refused("9", "throws IndexOutOfBoundsException if to is below from" + ofSize, Cases.INDEX,
-                    () -> Edges.withRow('i', 1, Edges.rising(size)), turned);
+            cutOutside("throws IndexOutOfBoundsException if from is below 0" + ofSize, size, cutBelow(size));
+            cutOutside("throws IndexOutOfBoundsException if to is above the length" + ofSize, size, cutAbove(size));
+            cutOutside("throws IndexOutOfBoundsException if to is below from" + ofSize, size, cutTurned(size));
         }
         cases.refused("9", "no such kind ahead of no such row and of a range that is none", Cases.ARGUMENT, Edges::busy,
                 x -> x.cut('x', 4, 0, 0), x -> x.cut('x', 0, 2, 1), x -> x.cut('x', -1, -1, 99));
         cases.refused("9", "no such row, and a range that is none", Cases.INDEX, Edges::busy,
                 x -> x.cut('b', 4, -1, 1), x -> x.cut('l', -1, 1, 0));
+    }
+
+    private static void cutOutside(String sentence, int size, List<int[]> ranges) {
+        cases.test("9", sentence, () -> Edges.eachRow((kind, row) -> cases.refuses(Cases.INDEX,
+                () -> Edges.withRow(kind, row, Edges.rising(size)),
+                Edges.each(ranges, range -> x -> x.cut(kind, row, range[0], range[1])))));
+    }
+
+    private static List<int[]> cutBelow(int size) {
+        List<int[]> ranges = new ArrayList<>();
+        for (int from : Edges.intsOutside(0, Integer.MAX_VALUE)) {
+            for (int to : new int[] {0, size, from, Integer.MAX_VALUE}) {
+                ranges.add(new int[] {from, to});
+            }
+        }
+        return ranges;
+    }
+
+    private static List<int[]> cutAbove(int size) {
+        List<int[]> ranges = new ArrayList<>();
+        for (int to : Edges.intsOutside(Integer.MIN_VALUE + 2, size)) {
+            if (to > size) {
+                for (int from : new int[] {0, size, to}) {
+                    ranges.add(new int[] {from, to});
+                }
+            }
+        }
+        return ranges;
+    }
+
+    private static List<int[]> cutTurned(int size) {
+        List<int[]> ranges = new ArrayList<>();
+        ranges.add(new int[] {size, Integer.MIN_VALUE});
+        for (int to = -1; to <= size; to++) {
+            ranges.add(new int[] {to + 1, to});
+            ranges.add(new int[] {size + 1, to});
+            ranges.add(new int[] {Integer.MAX_VALUE, to});
+        }
+        return ranges;
     }
 
     /** As the document's words say it, without a machine's numbers. */
@@ -527,13 +570,25 @@ public final class RowsBoundaryTest {
             cases.test("10", "one that is no number of the other kind, at place " + place + ", and nothing is changed", () -> {
                 long[] numbers = Edges.rising(32);
                 numbers[asked] = 128;
-                cases.refuses(Cases.STATE, () -> Edges.withTwo('s', numbers, Edges.rising(3)),
-                        x -> x.convert('s', 0, 'b', 2, 'n'));
+                cases.refuses(Cases.STATE, () -> besides('s', numbers, 'b'), x -> x.convert('s', 3, 'b', 2, 'n'));
                 numbers[asked] = -1;
-                cases.refuses(Cases.STATE, () -> Edges.withRow('b', 3, numbers), x -> x.convert('b', 3, 'b', 3, 'u'));
-                cases.refuses(Cases.STATE, () -> Edges.withRow('l', 3, numbers), x -> x.convert('l', 3, 'l', 1, 'u'));
+                cases.refuses(Cases.STATE, () -> besides('b', numbers, 'b'), x -> x.convert('b', 3, 'b', 2, 'u'),
+                        x -> x.convert('b', 3, 'b', 3, 'u'));
+                cases.refuses(Cases.STATE, () -> besides('l', numbers, 'l'), x -> x.convert('l', 3, 'l', 2, 'u'),
+                        x -> x.convert('l', 3, 'l', 3, 'u'));
+                long[] turned = Edges.alike(32, Short.MIN_VALUE);
+                turned[asked] = 0;
+                cases.refuses(Cases.STATE, () -> besides('s', turned, 'b'), x -> x.convert('s', 3, 'b', 2, 't'));
             });
         }
+    }
+
+    /** Row 3 of these numbers, and row 2 of the other kind full of others. */
+    private static Spanjudge besides(char kind, long[] numbers, char other) {
+        Spanjudge x = Edges.withRow(kind, 3, numbers);
+        Due.put(x, other, 2, 50, 51, 52, 53);
+        x.repeat(other, 2, 8);
+        return x;
     }
 
     private static void convertFirstDocumented() {

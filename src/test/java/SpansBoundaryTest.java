@@ -58,17 +58,17 @@ public final class SpansBoundaryTest {
         List<Cases.Call> turned = new ArrayList<>();
         List<Cases.Call> above = new ArrayList<>();
         for (int from : Edges.intsOutside(0, Integer.MAX_VALUE)) {
-            below.addAll(List.of(x -> x.span(4, 1, from, 0), x -> x.span(4, 1, from, 32), x -> x.span(4, 1, from, from),
-                    x -> x.span(4, 1, from, Integer.MAX_VALUE)));
+            below.addAll(List.of(x -> x.span(4, 3, from, 0), x -> x.span(4, 2, from, 32), x -> x.span(11, 3, from, from),
+                    x -> x.span(0, 1, from, Integer.MAX_VALUE)));
         }
         for (int to = -1; to <= 32; to++) {
             int asked = to;
-            turned.addAll(List.of(x -> x.span(4, 1, asked + 1, asked), x -> x.span(4, 1, Integer.MAX_VALUE, asked),
-                    x -> x.span(4, 1, asked, Integer.MIN_VALUE)));
+            turned.addAll(List.of(x -> x.span(4, 3, asked + 1, asked), x -> x.span(11, 2, Integer.MAX_VALUE, asked),
+                    x -> x.span(0, 3, asked, Integer.MIN_VALUE)));
         }
         for (int to : Edges.intsOutside(Integer.MIN_VALUE + 2, 32)) {
             if (to > 32) {
-                above.addAll(List.of(x -> x.span(4, 1, 0, to), x -> x.span(4, 1, 32, to), x -> x.span(4, 1, to, to)));
+                above.addAll(List.of(x -> x.span(4, 3, 0, to), x -> x.span(11, 2, 32, to), x -> x.span(0, 3, to, to)));
             }
         }
         cases.refused("11", "throws IllegalArgumentException if from is below 0", Cases.ARGUMENT, Edges::busy, below);

@@ -490,6 +490,16 @@ public final class WordsBoundaryTest {
             call.on(x);
             cases.is(before, State.list(x));
         });
+        cases.test("19", "a list of all twelve stays as it is until the next sort(): " + what, () -> {
+            Spanjudge x = Edges.busy();
+            for (int span : new int[] {6, 9, 11}) {
+                x.span(span, 3, 11 - span, 12);
+            }
+            cases.is(12, x.sort('i', 'u'));
+            List<Integer> before = State.list(x);
+            call.on(x);
+            cases.is(before, State.list(x));
+        });
     }
 
     private static void listStays() {
