@@ -213,7 +213,7 @@ public final class TheoremBoundaryTest {
 
     private static void differentWords(char kind) {
         for (char order : Edges.ORDERS) {
-            cases.test("Terms", "THEOREM (4): n times n + 1, divided by 2, less what neighbours have alike, of rows of none, one and 32, by "
+            cases.test("Terms", "THEOREM (4): n times n + 1, divided by 2, less what neighbours have alike, n 0, 1 and 32, by "
                     + order + " of " + kind, () -> {
                 for (long[] numbers : someRows(kind)) {
                     Spanjudge x = Edges.withRow(kind, 1, numbers);
@@ -232,7 +232,7 @@ public final class TheoremBoundaryTest {
     }
 
     private static void periods(char kind) {
-        cases.test("Terms", "THEOREM (5): p is a period just if the row without its last p is that without its first p, p up to the length, of "
+        cases.test("Terms", "THEOREM (5): p is a period just if the row without its last p is that without its first p, up to n, of "
                 + kind, () -> {
             for (long[] numbers : someRows(kind)) {
                 Spanjudge x = Edges.withRow(kind, 2, numbers);
@@ -270,7 +270,7 @@ public final class TheoremBoundaryTest {
                 }
             }
         });
-        cases.test("Terms", "THEOREM (5): if p + q less their divisor is n + 1, it need not be one, and rowIsTrue() knows, of " + kind, () -> {
+        cases.test("Terms", "THEOREM (5): if p + q less their divisor is n + 1, it need not be one, of " + kind, () -> {
             Spanjudge x = Edges.withRow(kind, 0, repeated(11, "abaab"));
             cases.is(true, x.isPeriod(kind, 0, 5));
             cases.is(true, x.isPeriod(kind, 0, 8));
@@ -291,7 +291,7 @@ public final class TheoremBoundaryTest {
     private static void lyndonWords(char kind) {
         for (char order : Edges.ORDERS) {
             char what = order == 's' ? 'c' : 'u';
-            cases.test("Terms", "THEOREM (6): each factor is a Lyndon word, none less than the next one, by " + order + " of " + kind, () -> {
+            cases.test("Terms", "THEOREM (6): each factor is a Lyndon word, not less than the next, by " + order + " of " + kind, () -> {
                 for (long[] numbers : someRows(kind)) {
                     Spanjudge x = Edges.withRow(kind, 3, numbers);
                     int count = x.factors(kind, order, 3);
