@@ -1,8 +1,9 @@
 import java.lang.management.ManagementFactory;
 
 /**
- * What an object's 512 calls, those that fill it and those of one kind, allocate: all calls of a run live in one room of some 600,000 objects,
- * and a row of 32 numbers is the dearest there is. No object is smaller than 16 bytes.
+ * What an object's 512 calls, those that fill it and those of one kind, allocate: all calls of a run
+ * live in one room of some 600,000 objects, and a row of 32 numbers is the dearest there is. No object
+ * is smaller than 16 bytes.
  */
 public final class RoomTest {
     private static final int CALLS = 512 - 40;
