@@ -16,6 +16,7 @@ public final class FiguresBoundaryTest {
         isTrue();
         isTrueRefused();
         rowIsTrue();
+        rowIsTrueBehindOthers();
         rowIsTrueRefused();
         cases.end();
     }
@@ -370,6 +371,24 @@ public final class FiguresBoundaryTest {
                 cases.is(true, x.rowIsTrue('b', 'u', 0));
             }
         });
+    }
+
+    private static void rowIsTrueBehindOthers() {
+        for (char kind : Edges.KINDS) {
+            cases.test("35", "always true: behind factors() and ending() of another row, or by the other order, of " + kind, () -> {
+                Spanjudge x = Edges.withTwo(kind, Edges.falling(32), new long[] {0, -1, Edges.most(kind), Edges.least(kind), 0});
+                for (char order : Edges.ORDERS) {
+                    cases.is(32, x.factors(kind, order, 0));
+                    cases.is(true, x.rowIsTrue(kind, order, 1));
+                    cases.is(31, x.ending(kind, order, 0, 0));
+                    cases.is(true, x.rowIsTrue(kind, order, 2));
+                    cases.is(0, x.factors(kind, order, 3));
+                    cases.is(true, x.rowIsTrue(kind, order, 1));
+                    cases.is(true, x.rowIsTrue(kind, order == 's' ? 'u' : 's', 1));
+                    cases.is(true, x.rowIsTrue(kind, order, 0));
+                }
+            });
+        }
     }
 
     private static void rowIsTrueRefused() {
